@@ -623,13 +623,13 @@ public final class HandInHand {
     }
 
     private int leastFar() {
-        int found = NONE;
+        int chosen = NONE;
         for (int place = 0; place < CELLS; place++) {
-            if (farthest[place] != NONE && (found == NONE || farthest[place] < farthest[found])) {
-                found = place;
+            if (farthest[place] != NONE && (chosen == NONE || farthest[place] < farthest[chosen])) {
+                chosen = place;
             }
         }
-        return found;
+        return chosen;
     }
 
     private static boolean isSixteenths(int v) {
