@@ -1,8 +1,13 @@
+import java.lang.reflect.Method;
+import java.util.Arrays;
+import java.util.Comparator;
+
 /** Counts the answers that are not as due; each test ends with exit code 1 if there was one. */
 final class Check {
     static final long LONG_BAD = Long.MIN_VALUE + 2, LONG_NOT = Long.MIN_VALUE + 3;
 
     private static int made = 0, wrong = 0;
+    private static String test = "";
 
     private Check() {
     }
@@ -11,7 +16,7 @@ final class Check {
         made++;
         if (got != want) {
             wrong++;
-            System.out.println(call + " answered " + got + ", due is " + want);
+            System.out.println(test + call + " answered " + got + ", due is " + want);
         }
     }
 
@@ -19,7 +24,7 @@ final class Check {
         made++;
         if (!holds) {
             wrong++;
-            System.out.println("not so: " + what);
+            System.out.println(test + "not so: " + what);
         }
     }
 
@@ -28,6 +33,22 @@ final class Check {
         if (wrong != 0 || made == 0) {
             System.exit(1);
         }
+    }
+
+    /** Runs each method that says for which words it stands, and tells these words where it fails. */
+    static void runAll(Class<?> tests) throws ReflectiveOperationException {
+        Method[] methods = tests.getDeclaredMethods();
+        Arrays.sort(methods, Comparator.comparing(Method::getName));
+        for (Method method : methods) {
+            Says says = method.getAnnotation(Says.class);
+            if (says != null) {
+                test = method.getName() + " (promise " + says.promise() + ": " + says.words()[0] + "): ";
+                int before = made;
+                method.invoke(null);
+                that("it checks something", made > before);
+            }
+        }
+        test = "";
     }
 
     static void typeAll(HandInHand x, int text, String bytes) {
