@@ -6,7 +6,8 @@ import java.util.Random;
 
 /** Runs of calls by fixed seeds, each answered by the class and by the slow model alike. */
 public final class ModelTests {
-    private static final int RUNS = 700, CALLS = 512;
+    /** The digest at the end of a run is its call 512. */
+    private static final int RUNS = 700, CALLS = 511;
 
     /** A call, how often it comes, and for each number the least and the most that may be well. */
     private static final Object[][] CALL_KINDS = {

@@ -56,6 +56,7 @@ public final class PromiseTests {
         write();
         count();
         digest();
+        questionsInAnyOrder();
         Check.end();
     }
 
@@ -972,5 +973,32 @@ public final class PromiseTests {
         long before = x.digest();
         x.lose(0);
         due("38 not by findings", x.digest(), before);
+    }
+
+    /** A question leaves nothing behind by which another one could answer otherwise. */
+    private static void questionsInAnyOrder() {
+        String[] questions = {"seek 0 -2", "seek 3 1", "parted 0 3 0", "parted 3 1 2", "best 31 -1", "best 31 0",
+            "best 22 1", "is 0 5 9 0", "is 9 3 0 1", "likeliest 0 4", "near 0 19", "easiest 0 19 -2", "easiest 19 0 2",
+            "meet 31 0", "meet 9 1", "torn 5 0", "torn 5 3", "fairs 5 9", "holds 1 0 2 0", "alike 1", "digest"};
+        for (int rule = 0; rule < 3; rule++) {
+            Caller all = asked(rule);
+            for (String first : questions) {
+                long answer = asked(rule).call(first);
+                due("asked among others: " + first, all.call(first), answer);
+            }
+            for (int k = questions.length - 1; k >= 0; k--) {
+                due("asked again: " + questions[k], all.call(questions[k]), asked(rule).call(questions[k]));
+            }
+        }
+    }
+
+    private static Caller asked(int rule) {
+        Caller x = new Caller();
+        x.typeAll(0, "02#3;1900;0#24");
+        x.typeAll(1, "cadb");
+        x.typeAll(2, "eseewwn");
+        x.callAll("set 1 19, look 19 3, look 16 9, look 3 1, person 0 1 18, person 3 1 1, grip 0 2 1, grip 2 4 13");
+        x.call("set 2 " + rule);
+        return x;
     }
 }

@@ -402,6 +402,13 @@ public final class SheetBoundsTests extends Bounds {
             full.set(2, rule);
             dueDigest("all there is, by rule " + rule, full);
         }
+        HandInHand apart = with(ROW, "abc", "e");
+        for (int person = 0; person < 3; person++) {
+            dueDigest("persons apart, " + person, apart);
+            apart.person(person, 1, 7);
+            dueDigest("one stands at the end, " + person, apart);
+            apart.person(person, 1, 0);
+        }
     }
 
     @Says(promise = 38, words = {

@@ -67,6 +67,10 @@ public final class WayBoundsTests extends Bounds {
             due("there is one", x.judged(), 0);
             due("none is done", x.count(3), 0);
         }
+        HandInHand untyped = new HandInHand();
+        untyped.type(2, 'e');
+        due("no fair was ever typed", untyped.judged(), 0);
+        due("none is done", untyped.count(3), 0);
         HandInHand faulty = with("x", "", "e");
         due("no fair at all", faulty.judged(), 0);
         faulty.type(2, 'x');
@@ -163,7 +167,9 @@ public final class WayBoundsTests extends Bounds {
         for (int i = 0; i < letters.length; i++) {
             due("letter " + i, x.easiest(from, to, i), letters[i]);
         }
-        due("behind the last letter", x.easiest(from, to, letters.length), NONE);
+        for (int i = letters.length; i <= letters.length + 3; i++) {
+            due("behind the last letter, " + i, x.easiest(from, to, i), NONE);
+        }
         due("far behind", x.easiest(from, to, HIGH), NONE);
     }
 
@@ -176,6 +182,9 @@ public final class WayBoundsTests extends Bounds {
         dueEasiest(x, 0, 0, 0);
         dueEasiest(fairOf("999;999"), 0, 10, 27, 1, 1, 2);
         dueEasiest(fairOf("090;000"), 0, 2, 0, 2, 1, 1, 0);
+        dueEasiest(fairOf("000;900;900"), 18, 0, 0, 0, 0, 3, 3);
+        dueEasiest(fairOf("009;009;000"), 0, 18, 0, 1, 2, 2, 1);
+        dueEasiest(fairOf(ROW), 0, 5, 0, 1, 1, 1, 1, 1);
         // One figure less is worth any number of steps.
         dueEasiest(fairOf("01000000;0######0;00000000"), 0, 7, 0,
                 2, 2, 1, 1, 1, 1, 1, 1, 1, 0, 0);
