@@ -24,6 +24,19 @@ abstract class Bounds {
         return Check.with(fair, "", "");
     }
 
+    static HandInHand withItems(int s, int form, int... items) {
+        HandInHand x = new HandInHand();
+        layAll(x, s, form, items);
+        return x;
+    }
+
+    static void layAll(HandInHand x, int s, int form, int... items) {
+        x.sheet(s, form, items.length);
+        for (int i = 0; i < items.length; i++) {
+            x.lay(s, form, i, items[i]);
+        }
+    }
+
     static void dueFault(int text, String bytes, int place) {
         HandInHand x = new HandInHand();
         Check.typeAll(x, text, bytes);

@@ -447,15 +447,6 @@ public final class FairBoundsTests extends Bounds {
         due("kept", x.person(0, 0, 0), 1);
     }
 
-    private static HandInHand withItems(int form, int... items) {
-        HandInHand x = new HandInHand();
-        x.sheet(0, form, items.length);
-        for (int i = 0; i < items.length; i++) {
-            x.lay(0, form, i, items[i]);
-        }
-        return x;
-    }
-
     private static void dueHabits(String call, HandInHand x, int... habits) {
         for (int person = 0; person < 5; person++) {
             due(call + ", habit of " + person, x.person(person, 0, 8), habits[person]);
@@ -465,33 +456,33 @@ public final class FairBoundsTests extends Bounds {
     @Says(promise = 9, words = "HABITS of PERSONS 0 on by a SHEET, item by item, as long as each may be,")
     static void readGoesOnAsLongAsEachMayBe() {
         for (int form = 0; form < 3; form++) {
-            HandInHand x = withItems(form, 0, 16, 17, 3, 4);
+            HandInHand x = withItems(0, form, 0, 16, 17, 3, 4);
             due("up to one beyond the most", x.read(0), 2);
             dueHabits("two", x, 0, 16, 8, 8, 8);
-            HandInHand y = withItems(form, 16, 0, 5, -1, 4);
+            HandInHand y = withItems(0, form, 16, 0, 5, -1, 4);
             due("up to one below the least", y.read(0), 3);
             dueHabits("three", y, 16, 0, 5, 8, 8);
-            HandInHand z = withItems(form, 17, 1, 2, 3, 4);
+            HandInHand z = withItems(0, form, 17, 1, 2, 3, 4);
             due("the first may not be", z.read(0), 0);
             dueHabits("none", z, 8, 8, 8, 8, 8);
         }
-        HandInHand cut = withItems(0, 256 + 5, 128);
+        HandInHand cut = withItems(0, 0, 256 + 5, 128);
         due("a byte of 256 and 5 is 5, of 128 below 0", cut.read(0), 1);
         dueHabits("one", cut, 5, 8, 8, 8, 8);
-        due("an int is not cut", withItems(2, 256 + 5).read(0), 0);
-        due("a short is not cut to a byte", withItems(1, 256 + 5).read(0), 0);
+        due("an int is not cut", withItems(0, 2, 256 + 5).read(0), 0);
+        due("a short is not cut to a byte", withItems(0, 1, 256 + 5).read(0), 0);
     }
 
     @Says(promise = 9, words = "five at most: how many.")
     static void readTakesFiveAtMost() {
-        due("no items", withItems(0).read(0), 0);
-        HandInHand four = withItems(1, 1, 2, 3, 4);
+        due("no items", withItems(0, 0).read(0), 0);
+        HandInHand four = withItems(0, 1, 1, 2, 3, 4);
         due("four items", four.read(0), 4);
         dueHabits("four", four, 1, 2, 3, 4, 8);
-        HandInHand five = withItems(1, 1, 2, 3, 4, 5);
+        HandInHand five = withItems(0, 1, 1, 2, 3, 4, 5);
         due("five items", five.read(0), 5);
         dueHabits("five", five, 1, 2, 3, 4, 5);
-        HandInHand six = withItems(2, 1, 2, 3, 4, 5, 6);
+        HandInHand six = withItems(0, 2, 1, 2, 3, 4, 5, 6);
         due("six items", six.read(0), 5);
         dueHabits("six", six, 1, 2, 3, 4, 5);
         HandInHand all = new HandInHand();

@@ -12,19 +12,6 @@ public final class SheetBoundsTests extends Bounds {
         Check.end();
     }
 
-    private static HandInHand withItems(int s, int form, int... items) {
-        HandInHand x = new HandInHand();
-        layAll(x, s, form, items);
-        return x;
-    }
-
-    private static void layAll(HandInHand x, int s, int form, int... items) {
-        x.sheet(s, form, items.length);
-        for (int i = 0; i < items.length; i++) {
-            x.lay(s, form, i, items[i]);
-        }
-    }
-
     private static void dueItems(String call, HandInHand x, int s, int form, int... items) {
         for (int i = 0; i < items.length; i++) {
             due(call + ", item " + i, x.get(s, form, i), items[i]);
@@ -412,7 +399,8 @@ public final class SheetBoundsTests extends Bounds {
     }
 
     @Says(promise = 38, words = {
-        "count() 0 to 7; of texts fault(); judged(), at(all that are done) (as it is told), loose(), risk(), alike(), above, below;",
+        "count() 0 to 7; of texts fault(); judged(), at(all that are done) (as it is told),",
+        "loose(), risk(), alike(), above, below;",
         "of PERSONS 0 to 4 order(it), seek(it, -2), (it, NONE), (it, 0) (as they are told);",
         "near(0, 9), easiest(0, 9, -2 to 1) (as they are told), best(31, NONE to 4), holds(0, 0, 2, 0) (as it is told),",
         "torn(7, 0 to 3), fairs(7, 9), is(0, 3, 1, 0 and 1), likeliest(0, 4) (as they are told),",
