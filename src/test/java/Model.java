@@ -50,9 +50,20 @@ final class Model {
         return had - 1;
     }
 
+    private final String[] judgedTexts = new String[3];
+    private final int[] faults = new int[3];
+
     int fault(int text) {
         if (!within(text, 0, 2)) return BAD;
         String s = texts[text].toString();
+        if (!s.equals(judgedTexts[text])) {
+            judgedTexts[text] = s;
+            faults[text] = faultOf(text, s);
+        }
+        return faults[text];
+    }
+
+    private static int faultOf(int text, String s) {
         for (int i = 0; i < s.length(); i++) {
             if (!canGoOn(text, s.substring(0, i + 1))) return i;
         }
